@@ -954,23 +954,23 @@ public final class FacesOfLines {
     private static final class Standing {
         private int size;
         private final int[] row = new int[MOST_LINES];
+        /** By numbers of LINES: the height of each that stands in the row. */
+        private final long[] height = new long[MOST_LINES];
 
         void stand(Lines lines, long xn, long xd) {
             size = 0;
             for (int i = 0; i < lines.size; i++) {
                 if (!lines.isUpright(i) && lines.reaches(i, xn, xd)) {
-                    let(lines, i, xn, xd);
+                    height[i] = lines.height(i, xn, xd);
+                    let(lines, i);
                 }
             }
         }
 
         /** They come by their numbers, so one that is like another stays behind it. */
-        private void let(Lines lines, int line, long xn, long xd) {
-            if (size >= MOST_LINES) {
-                return;
-            }
+        private void let(Lines lines, int line) {
             int at = size;
-            for (int i = size - 1; i >= 0 && compare(lines, row[i], line, xn, xd) > 0; i--) {
+            for (int i = size - 1; i >= 0 && compareTwo(lines, row[i], line) > 0; i--) {
                 row[i + 1] = row[i];
                 at = i;
             }
@@ -978,9 +978,9 @@ public final class FacesOfLines {
             size++;
         }
 
-        static int compare(Lines lines, int one, int other, long xn, long xd) {
-            int byHeight = compareFractions(lines.height(one, xn, xd), lines.run(one),
-                    lines.height(other, xn, xd), lines.run(other));
+        /** Two that stand in the row: 0 if they go the same way there. */
+        int compareTwo(Lines lines, int one, int other) {
+            int byHeight = compareFractions(height[one], lines.run(one), height[other], lines.run(other));
             return byHeight != 0 ? byHeight
                     : compareFractions(lines.rise(one), lines.run(one), lines.rise(other), lines.run(other));
         }
@@ -1035,7 +1035,7 @@ public final class FacesOfLines {
                 if (!lines.reaches(line, xn[slab], xd[slab])) {
                     continue;
                 }
-                if (last != NONE && Standing.compare(lines, last, line, xn[slab - 1], xd[slab - 1]) != 0) {
+                if (last != NONE && standing.compareTwo(lines, last, line) != 0) {
                     addCell(slab, under, bound);
                     under = bound;
                     bound = 0;
