@@ -1350,12 +1350,13 @@ public final class FacesOfLines {
             return hull[p] == NONE || hull[p] == h;
         }
 
+        /** Round the HULL with the clock each place ON its border has another one ahead on its side. */
         private boolean isOnBorder(int p, int h) {
             boolean alone = true;
             for (int q = 0; q < places; q++) {
                 if (q != p && isLeft(q, h)) {
                     alone = false;
-                    if (allAtOneSide(p, q, h)) {
+                    if (noneAtTheLeft(p, q, h)) {
                         return true;
                     }
                 }
@@ -1363,17 +1364,10 @@ public final class FacesOfLines {
             return alone;
         }
 
-        private boolean allAtOneSide(int p, int q, int h) {
-            boolean leftOf = false;
-            boolean rightOf = false;
+        private boolean noneAtTheLeft(int p, int q, int h) {
             for (int r = 0; r < places; r++) {
-                if (!isLeft(r, h)) {
-                    continue;
-                }
                 int turn = (x[q] - x[p]) * (y[r] - y[p]) - (y[q] - y[p]) * (x[r] - x[p]);
-                leftOf |= turn > 0;
-                rightOf |= turn < 0;
-                if (leftOf && rightOf) {
+                if (turn > 0 && isLeft(r, h)) {
                     return false;
                 }
             }

@@ -27,6 +27,12 @@ public final class PromiseTests {
         }
     }
 
+    /** Ten LINES that cross each other at 45 places; no two of the 65 POINTS have one x. */
+    private static FacesOfLines ten() {
+        return of(0, 22, 36, 17, 2, 24, 32, 14, 1, 37, 33, 0, 6, 14, 37, 26, 4, 28, 39, 9,
+                9, 0, 35, 37, 8, 5, 34, 32, 5, 17, 40, 21, 7, 8, 38, 29, 3, 33, 31, 6);
+    }
+
     private static int[] counts(FacesOfLines f) {
         int[] c = new int[11];
         for (int i = 0; i < 11; i++) {
@@ -111,7 +117,33 @@ public final class PromiseTests {
         FacesOfLines up = of(3, 40, 3, 0);
         all("told of an upright one", tolds(up, 0), 3, 0, 3, 40, 1, 2, 0, 0);
         due.is("one that is there already", up.line(3, 0, 3, 40), 1);
-        all("counts of two on one another", counts(up), 2, 2, 1, 1, 2, 2, 1, 1, 0, 0, 1);
+        all("counts of two on one another after one", counts(up), 2, 2, 1, 1, 2, 2, 1, 1, 0, 0, 1);
+    }
+
+    private static void whatFollowsIsFoundAnew() {
+        FacesOfLines f = roomWith(4, 0, 4, 4);
+        all("a room with a wall", counts(f), 5, 6, 7, 1, 4, 8, 3, 1, 0, 6, 0);
+        f.line(0, 2, 4, 2);
+        all("one more", counts(f), 6, 8, 10, 1, 4, 9, 4, 2, 0, 8, 0);
+        all("its outer face", faces(f, 0), 0, 6, 15, 3, 1);
+        f.move(5, 1, 3, 2);
+        all("moved", counts(f), 6, 8, 9, 1, 5, 12, 3, 2, 0, 7, 0);
+        all("its first room", faces(f, 1), 2, 3, 55, 2, 0);
+        f.drop(4);
+        all("one less", counts(f), 5, 6, 6, 1, 4, 9, 2, 2, 0, 5, 0);
+        due.is("points on it", f.told(2, 5), 3);
+        due.is("points on one that was longer", f.told(4, 5), 2);
+        f.image();
+        f.drop(4);
+        all("and less", counts(f), 4, 4, 4, 1, 3, 5, 2, 1, 0, 4, 0);
+        all("the room", faces(f, 1), 2, 1, 15, 1, 0);
+        f.back();
+        all("back", counts(f), 5, 6, 6, 1, 4, 9, 2, 2, 0, 5, 0);
+        f.sheet(0, 0, 4);
+        f.put(0, 2, 30);
+        f.put(0, 3, 30);
+        f.load(0, 0, 0, 1);
+        all("loaded", counts(f), 6, 9, 11, 1, 7, 22, 4, 2, 2, 7, 0);
     }
 
     private static void promise3Drop() {
@@ -146,6 +178,7 @@ public final class PromiseTests {
     private static void promise5Told() {
         FacesOfLines f = squares();
         f.line(0, 6, 6, 6);
+        // It ends in the midst, crosses the left side of the square within and touches the one around it.
         all("told(8)", tolds(f, 8), 0, 6, 6, 6, 0, 3, 0, 2);
         all("told(0)", tolds(f, 0), 0, 0, 0, 12, 1, 3, 0, 0);
         all("told(4)", tolds(f, 4), 4, 4, 4, 8, 1, 3, 1, 1);
@@ -187,6 +220,17 @@ public final class PromiseTests {
         all("uprights apart", crosses(f, 7, 6), 0, -3, -3, -3, -3);
         all("level ones apart", crosses(f, 2, 8), 0, -3, -3, -3, -3);
         all("end of the other in the midst", crosses(f, 3, 8), 2, 3, 1, 4, 1);
+        int[][] beside = {{3, 1, 5, 1, 0, 0, 2, 2}, {3, 1, 5, 1, 6, 0, 8, 2}, {0, 0, 2, 2, 3, 1, 5, 1},
+            {6, 0, 8, 2, 3, 1, 5, 1}, {0, 0, 1, 1, 2, 0, 3, 9}, {1, 0, 1, 3, 1, 4, 9, 5}};
+        for (int[] b : beside) {
+            due.is("apart, though one meets the row of the other", of(b).cross(0, 1, 0), 0);
+        }
+        int[][] tees = {{2, 2, 6, 4, 0, 2, 4, 2}, {2, 2, 6, 4, 4, 4, 8, 4}, {0, 2, 4, 2, 2, 2, 6, 4},
+            {4, 4, 8, 4, 2, 2, 6, 4}};
+        for (int[] t : tees) {
+            due.is("an end in the midst", of(t).cross(0, 1, 0), 2);
+        }
+        all("in halves", crosses(of(0, 0, 1, 1, 0, 1, 1, 0), 0, 1), 1, 1, 2, 1, 2);
         FacesOfLines steep = of(0, 0, 40, 39, 0, 1, 39, 0);
         // y = 39 x / 40 and y = 1 - x / 39: x = 1560 / 1561, y = 1521 / 1561.
         all("in lowest terms", crosses(steep, 0, 1), 1, 1560, 1561, 1521, 1561);
@@ -202,6 +246,13 @@ public final class PromiseTests {
         all("point(5)", points(f, 5), 3, 1, 5, 1, 8, 1, 5);
         all("point(6)", points(f, 6), 9, 1, 5, 1, 8, 1, 5);
         due.is("point(7, 0)", f.point(7, 0), -12);
+        FacesOfLines near = of(0, 0, 3, 2, 0, 1, 3, 0, 1, 2, 5, 9);
+        all("an end above a fraction", points(near, 2), 1, 1, 2, 3, 3, 0, 0);
+        all("that end", points(near, 3), 1, 1, 2, 1, 4, 1, 3);
+        FacesOfLines chain = of(2, 0, 3, 0, 1, 0, 2, 0, 0, 0, 1, 0, 8, 0, 9, 0);
+        for (int i = 0; i < 6; i++) {
+            due.is("least point of a chain", chain.point(i, 6), i < 4 ? 0 : 4);
+        }
         FacesOfLines star = of(0, 0, 4, 4, 0, 4, 4, 0, 2, 0, 2, 4, 0, 2, 4, 2);
         all("four through one", points(star, 4), 2, 1, 2, 1, 15, 0, 0);
         due.is("points of the star", star.count(1), 9);
@@ -266,6 +317,12 @@ public final class PromiseTests {
         all("a wall bounds what is on both sides", faces(roomWith(4, 0, 4, 3), 1), 2, 2, 31, 1, 0);
         all("a wall that goes beyond bounds both", faces(roomWith(4, 2, 4, 9), 0), 0, 6, 31, 1, 1);
         all("a wall that ends at the top bounds one", faces(roomWith(4, 4, 4, 9), 1), 2, 2, 15, 1, 0);
+        all("a wall in the midst bounds", faces(roomWith(4, 1, 4, 3), 1), 2, 2, 31, 1, 0);
+        FacesOfLines tent = of(0, 0, 4, 4, 4, 4, 8, 0, 0, 0, 8, 0, 2, 0, 6, 0);
+        all("out of a tent", faces(tent, 0), 0, 10, 15, 1, 1);
+        all("in a tent", faces(tent, 1), 2, 4, 15, 1, 0);
+        due.is("into a tent", tent.hops(0, 1), 1);
+        due.is("out of it", tent.hops(1, 0), 1);
         // Between a single y of two rooms there is no way.
         FacesOfLines corners = of(0, 0, 8, 8, 0, 8, 8, 0, 0, 0, 0, 8, 8, 0, 8, 8);
         due.is("rooms that meet in a single place", corners.count(6), 3);
@@ -284,6 +341,7 @@ public final class PromiseTests {
 
     private static void promise13Where() {
         FacesOfLines f = squares();
+        due.is("left of all", f.where(-1, 6, 1), 0);
         due.is("in the midst", f.where(6, 6, 1), 2);
         due.is("in the ring", f.where(2, 6, 1), 1);
         due.is("in the ring, above", f.where(6, 10, 1), 1);
@@ -332,24 +390,20 @@ public final class PromiseTests {
     private static void promise16Count() {
         all("squares", counts(squares()), 8, 8, 8, 2, 5, 13, 3, 2, 0, 8, 0);
         all("fan", counts(fan()), 4, 5, 4, 1, 4, 10, 1, 1, 0, 5, 1);
-        FacesOfLines most = new FacesOfLines();
-        int[] ys = {0, 7, 11, 16, 20, 23, 27, 31, 36, 40};
-        int[] to = {40, 33, 30, 26, 21, 18, 13, 8, 5, 0};
-        for (int i = 0; i < 10; i++) {
-            most.line(0, ys[i], 40, to[i]);
-        }
-        int points = most.count(1);
-        due.is("ten that all cross", most.count(8), 45);
-        due.is("no end is one of them", points, 20 + insidePoints(most));
-        due.is("faces by Euler", most.count(6), most.count(2) - points + most.count(3) + 1);
-    }
-
-    private static int insidePoints(FacesOfLines f) {
-        int many = 0;
-        for (int i = 0; i < f.count(1); i++) {
-            many += f.point(i, 5) == 0 ? 1 : 0;
-        }
-        return many;
+        // Each LINE goes through the slabs between its ends: 550 times one does; 66 slabs have a cell more.
+        FacesOfLines most = ten();
+        all("ten", counts(most), 10, 65, 100, 1, 66, 616, 37, 3, 45, 0, 0);
+        due.is("the last slab", most.slab(65, 0), 40);
+        due.is("the last cell", most.cell(615, 0), 65);
+        due.is("no cell more", most.cell(616, 0), -12);
+        due.is("the last point", most.point(64, 0), 40);
+        due.is("the last face", most.face(36, 4), 0);
+        due.is("points on each", most.told(9, 5), 11);
+        due.is("all stand", most.order(20, 1, -1), 10);
+        due.is("film of all", most.film(0, 20), 10);
+        due.is("it tells all", most.tells(0, 20, 0), -1);
+        due.is("without one", most.without(4), 29);
+        due.is("without any", most.most(0), 0);
     }
 
     private static void promises17And18WithoutAndMost() {
@@ -394,6 +448,11 @@ public final class PromiseTests {
         FacesOfLines nine = of(0, 0, 40, 39, 0, 1, 40, 40, 0, 40, 39, 0, 20, 0, 20, 40, 0, 20, 40, 20, 7, 3, 31, 37,
                 0, 10, 40, 12, 0, 13, 40, 33, 9, 0, 10, 40);
         due.is("just one finds room", nine.drawn(5, 5), nine.drawn(5, 1));
+        // By this seed both ends of the first are at 40, 10, and the second goes from 39, 20 to 3, 1.
+        int due12353 = nine.drawn(12353, 2);
+        nine.line(39, 20, 3, 1);
+        due.is("one left out takes no room", due12353, nine.count(6));
+        nine.drop(9);
         nine.line(1, 1, 2, 39);
         due.is("none finds room", nine.drawn(5, 5), nine.count(6));
     }
@@ -450,6 +509,12 @@ public final class PromiseTests {
         due.is("one too much at the end", f.tells(1, 20, 0), 0);
         tell(f, 2, 1, 0, 1, 7);
         due.is("too much", f.tells(2, 0, 0), 2);
+        tell(f, 3, 0, 3, 1, 0);
+        due.is("too little by LINE 0", of(0, 9, 9, 9, 0, 1, 9, 1, 0, 5, 9, 5, 0, 0, 9, 0).tells(3, 0, 0), -11);
+        FacesOfLines four = of(0, 9, 9, 9, 0, 1, 9, 1, 0, 5, 9, 5, 0, 0, 9, 0);
+        tell(four, 3, 0, 3, 1, 2);
+        due.is("too little by LINE 0", four.tells(3, 0, 0), 3);
+        due.is("it goes without LINE 0", four.tells(3, 0, 3), 1);
         due.is("nowhere", f.tells(2, 0, 2), -1);
         due.is("at none", f.tells(2, 0, 1), 0);
         due.is("without none", f.tells(2, 0, 3), 0);
@@ -594,6 +659,7 @@ public final class PromiseTests {
         due.is("FULL", FacesOfLines.FULL, -4);
         promise1NewObject();
         promise2Line();
+        whatFollowsIsFoundAnew();
         promise3Drop();
         promise4Move();
         promise5Told();
