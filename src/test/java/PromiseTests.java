@@ -230,6 +230,13 @@ public final class PromiseTests {
         for (int[] t : tees) {
             due.is("an end in the midst", of(t).cross(0, 1, 0), 2);
         }
+        FacesOfLines mixed = of(0, 0, 3, 2, 0, 1, 3, 0, 5, 7, 7, 9, 7, 9, 9, 11);
+        all("at a fraction", crosses(mixed, 0, 1), 1, 1, 1, 2, 3);
+        all("then end at end in one row", crosses(mixed, 2, 3), 2, 7, 1, 9, 1);
+        all("then at a fraction again", crosses(mixed, 1, 0), 1, 1, 1, 2, 3);
+        FacesOfLines halves = of(0, 0, 1, 1, 0, 1, 1, 0, 5, 7, 7, 9, 7, 9, 9, 11);
+        all("in halves once more", crosses(halves, 0, 1), 1, 1, 2, 1, 2);
+        all("then in one row", crosses(halves, 3, 2), 2, 7, 1, 9, 1);
         all("in halves", crosses(of(0, 0, 1, 1, 0, 1, 1, 0), 0, 1), 1, 1, 2, 1, 2);
         FacesOfLines steep = of(0, 0, 40, 39, 0, 1, 39, 0);
         // y = 39 x / 40 and y = 1 - x / 39: x = 1560 / 1561, y = 1521 / 1561.
