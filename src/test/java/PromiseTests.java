@@ -465,13 +465,17 @@ public final class PromiseTests {
     }
 
     private static void promise20Chance() {
-        FacesOfLines f = roomWith(4, 0, 4, 4);
         for (int seed : new int[] {3, 2147483646, -7}) {
             for (int m = 1; m <= 5; m++) {
+                FacesOfLines f = roomWith(4, 0, 4, 4);
+                int[] faces = new int[m];
+                for (int i = 0; i < m; i++) {
+                    faces[i] = drawnOn(roomWith(4, 0, 4, 4), seed + i, 3).count(6);
+                }
                 for (int k = 0; k < 12; k++) {
                     int those = 0;
                     for (int i = 0; i < m; i++) {
-                        those += f.drawn(seed + i, 3) >= k ? 1 : 0;
+                        those += faces[i] >= k ? 1 : 0;
                     }
                     int above = f.chance(seed, m, k, 0);
                     int below = f.chance(seed, m, k, 1);
@@ -480,6 +484,7 @@ public final class PromiseTests {
                 }
             }
         }
+        FacesOfLines f = roomWith(4, 0, 4, 4);
         due.is("none", f.chance(3, 5, 99, 0), 0);
         due.is("none by", f.chance(3, 5, 99, 1), 1);
         due.is("all", f.chance(3, 4, 0, 0), 1);

@@ -37,7 +37,7 @@ public final class RandomRuns {
     }
 
     private int lineNumber() {
-        return any(0, Math.max(0, object.count(0) - 1));
+        return any(0, Math.max(0, oracle.count(0) - 1));
     }
 
     private int place(int d) {
@@ -54,13 +54,13 @@ public final class RandomRuns {
             case 3 -> args(lineNumber(), any(0, 7));
             case 4 -> args(lineNumber(), any(0, 2));
             case 5 -> args(lineNumber(), lineNumber(), any(0, 4));
-            case 6 -> args(any(0, Math.max(0, object.count(1) - 1)), any(0, 6));
+            case 6 -> args(any(0, Math.max(0, oracle.count(1) - 1)), any(0, 6));
             case 7 -> args(any(0, wide * Math.max(1, Math.min(d, 10))), d, any(-1, 6));
-            case 8 -> args(any(0, object.count(4) - 1), any(0, 3));
-            case 9 -> args(any(0, object.count(5) - 1), any(0, 3));
-            case 10 -> args(any(0, object.count(6) - 1), any(0, 4));
+            case 8 -> args(any(0, oracle.count(4) - 1), any(0, 3));
+            case 9 -> args(any(0, oracle.count(5) - 1), any(0, 3));
+            case 10 -> args(any(0, oracle.count(6) - 1), any(0, 4));
             case 11, 12 -> args(place(d), place(d), d);
-            case 13 -> args(any(0, object.count(6) - 1), any(0, object.count(6) - 1));
+            case 13 -> args(any(0, oracle.count(6) - 1), any(0, oracle.count(6) - 1));
             case 14 -> args(any(0, 10));
             case 15, 16 -> args();
             case 18 -> args(any(0, 1));
@@ -82,35 +82,7 @@ public final class RandomRuns {
         6, 24, 8, 8};
 
     private int ask(int call) {
-        return switch (call) {
-            case 0 -> object.line(a[0], a[1], a[2], a[3]);
-            case 1 -> object.drop(a[0]);
-            case 2 -> object.move(a[0], a[1], a[2], a[3]);
-            case 3 -> object.told(a[0], a[1]);
-            case 4 -> object.taken(a[0], a[1]);
-            case 5 -> object.cross(a[0], a[1], a[2]);
-            case 6 -> object.point(a[0], a[1]);
-            case 7 -> object.order(a[0], a[1], a[2]);
-            case 8 -> object.slab(a[0], a[1]);
-            case 9 -> object.cell(a[0], a[1]);
-            case 10 -> object.face(a[0], a[1]);
-            case 11 -> object.where(a[0], a[1], a[2]);
-            case 12 -> object.on(a[0], a[1], a[2]);
-            case 13 -> object.hops(a[0], a[1]);
-            case 14 -> object.count(a[0]);
-            case 15 -> object.image();
-            case 16 -> object.back();
-            case 17 -> object.without(a[0]);
-            case 18 -> object.most(a[0]);
-            case 19 -> object.drawn(a[0], a[1]);
-            case 20 -> object.chance(a[0], a[1], a[2], a[3]);
-            case 21 -> object.tells(a[0], a[1], a[2]);
-            case 22 -> object.film(a[0], a[1]);
-            case 23 -> object.sheet(a[0], a[1], a[2]);
-            case 24 -> object.put(a[0], a[1], a[2]);
-            case 25 -> object.copy(a[0], a[1], a[2], a[3], a[4]);
-            default -> object.load(a[0], a[1], a[2], a[3]);
-        };
+        return Calls.ask(object, NAMES[call], a);
     }
 
     private int askOracle(int call) {
@@ -160,11 +132,7 @@ public final class RandomRuns {
     }
 
     private String text(int call) {
-        StringBuilder b = new StringBuilder(NAMES[call]).append('(');
-        for (int i = 0; i < n; i++) {
-            b.append(i > 0 ? ", " : "").append(a[i]);
-        }
-        return b.append(')').toString();
+        return Calls.text(NAMES[call], java.util.Arrays.copyOf(a, n));
     }
 
     /** The first call that is answered otherwise, with all calls ahead of it; null if none is. */
@@ -188,7 +156,7 @@ public final class RandomRuns {
         int from = args.length > 1 ? Integer.parseInt(args[1]) : 0;
         int wrong = 0;
         for (int seed = from; seed < from + runs; seed++) {
-            String fault = new RandomRuns(seed).run(400);
+            String fault = new RandomRuns(seed).run(512);
             if (fault != null) {
                 wrong++;
                 System.out.println("random run " + seed + ":\n" + fault);

@@ -31,7 +31,7 @@ public final class RoomTests {
         long made = used() - ahead;
         due.holds("an object takes less than 100,000 bytes: " + made, made < 100000);
         ahead = used();
-        for (int round = 0; round < 40; round++) {
+        for (int round = 0; round < 11; round++) {
             callAll(f, round);
         }
         long calls = used() - ahead;
