@@ -449,6 +449,7 @@ public final class PromiseTests {
             for (int n = 0; n <= 5; n++) {
                 FacesOfLines f = roomWith(4, 0, 4, 4);
                 due.is("drawn(" + seed + ", " + n + ")", f.drawn(seed, n), drawnOn(roomWith(4, 0, 4, 4), seed, n).count(6));
+                due.is("drawn on a net", net().drawn(seed, n), drawnOn(net(), seed, n).count(6));
                 due.is("lines stay", f.count(0), 5);
             }
         }
@@ -467,12 +468,12 @@ public final class PromiseTests {
     private static void promise20Chance() {
         for (int seed : new int[] {3, 2147483646, -7}) {
             for (int m = 1; m <= 5; m++) {
-                FacesOfLines f = roomWith(4, 0, 4, 4);
+                FacesOfLines f = net();
                 int[] faces = new int[m];
                 for (int i = 0; i < m; i++) {
-                    faces[i] = drawnOn(roomWith(4, 0, 4, 4), seed + i, 3).count(6);
+                    faces[i] = drawnOn(net(), seed + i, 3).count(6);
                 }
-                for (int k = 0; k < 12; k++) {
+                for (int k = 0; k < 24; k++) {
                     int those = 0;
                     for (int i = 0; i < m; i++) {
                         those += faces[i] >= k ? 1 : 0;
@@ -489,6 +490,11 @@ public final class PromiseTests {
         due.is("none by", f.chance(3, 5, 99, 1), 1);
         due.is("all", f.chance(3, 4, 0, 0), 1);
         due.is("all by", f.chance(3, 4, 0, 1), 1);
+    }
+
+    /** Five LINES over the whole sheet, so that nearly every LINE more leaves faces more. */
+    private static FacesOfLines net() {
+        return of(0, 20, 40, 20, 20, 0, 20, 40, 0, 3, 40, 35, 0, 38, 40, 9, 0, 10, 40, 13);
     }
 
     private static int gcd(int a, int b) {
