@@ -122,6 +122,30 @@ public final class TermTests {
         }
     }
 
+    /** Behind the greatest int the seeds go on with the least one; a net of five LINES over the whole sheet. */
+    private static void seedsGoRound() {
+        int[] net = {0, 20, 40, 20, 20, 0, 20, 40, 0, 3, 40, 35, 0, 38, 40, 9, 0, 10, 40, 13};
+        int[] seeds = {Integer.MAX_VALUE - 1, Integer.MAX_VALUE, Integer.MIN_VALUE, Integer.MIN_VALUE + 1};
+        int[] faces = {16, 14, 11, 11};
+        for (int i = 0; i < seeds.length; i++) {
+            due.is("three drawn by " + seeds[i], of(net).drawn(seeds[i], 3), faces[i]);
+        }
+        int[] least = {17, 16, 15, 14, 13, 12, 11, 10, 0, 99};
+        int[] ofTwo = {0, 0, 0, 1, 1, 1, 2, 2, 2, 0};
+        int[] ofFour = {0, 1, 1, 2, 2, 2, 4, 4, 4, 0};
+        for (int i = 0; i < least.length; i++) {
+            FacesOfLines f = of(net);
+            fraction(f, Integer.MAX_VALUE, 2, least[i], ofTwo[i]);
+            fraction(f, Integer.MAX_VALUE - 1, 4, least[i], ofFour[i]);
+        }
+    }
+
+    private static void fraction(FacesOfLines f, int seed, int m, int k, int those) {
+        int by = those == 0 ? m : those % m == 0 || m % those == 0 ? Math.min(those, m) : 1;
+        due.is("of " + m + " seeds those by which there are " + k, f.chance(seed, m, k, 0), those / by);
+        due.is("of " + m + " seeds, below the line, " + k, f.chance(seed, m, k, 1), m / by);
+    }
+
     /** Shifts and halves of the sheet: what follows from LINES must not hang on where on the sheet they are. */
     private static void atTheEdgesOfTheSheet() {
         int[][] shifts = {{0, 0}, {36, 0}, {0, 36}, {36, 36}};
@@ -229,6 +253,7 @@ public final class TermTests {
         endsInOrder();
         likeYs();
         tellsJustThat();
+        seedsGoRound();
         atTheEdgesOfTheSheet();
         eachTwoLines();
         eachThreeLines();
