@@ -122,6 +122,65 @@ public final class TermTests {
         }
     }
 
+    /** Twenty ys at one x part it into twenty-one; more can't be. */
+    private static void tenUprightsAtOneX() {
+        FacesOfLines f = new FacesOfLines();
+        Oracle oracle = new Oracle();
+        for (int k = 0; k < 10; k++) {
+            add(f, oracle, new int[] {20, 4 * k, 20, 4 * k + 2});
+        }
+        due.is("all of them bound the only face", f.face(0, 2), 1023);
+        due.is("one face", f.count(6), 1);
+        due.is("no order", f.order(20, 1, -1), 0);
+        due.is("all points are at one x", f.count(4), 2);
+        everything("ten uprights", f, oracle);
+        // Two rooms upon one another, at the right of a row of uprights that leave no gap or a single one.
+        for (int gap = 0; gap < 2; gap++) {
+            FacesOfLines rooms = of(0, 0, 8, 0, 0, 20, 8, 20, 8, 0, 8, 20, 0, 0, 0, 20, 4, 0, 4, 4, 4, 4 + gap, 4, 8,
+                    4, 8, 4, 12, 4, 12, 4, 16, 4, 16, 4, 19, 4, 18, 4, 20);
+            due.is("rooms with " + gap + " gaps", rooms.count(6), 3 - gap);
+            due.is("bounds of the left one", rooms.face(1, 2), gap == 0 ? 1019 : 1023);
+        }
+    }
+
+    /** After drops, moves and back nothing may be left of the points, slabs, cells, faces, hulls that were. */
+    private static void whatWasIsForgotten() {
+        int[][] ends = {{0, 0, 3, 2}, {0, 3, 3, 0}, {2, 0, 2, 3}, {1, 1, 2, 1}, {0, 5, 20, 5}, {10, 5, 30, 5},
+            {30, 0, 30, 40}, {5, 40, 40, 0}, {0, 20, 40, 31}, {25, 5, 40, 5}};
+        for (int left = 0; left < 10; left++) {
+            for (int from = 0; from < 2; from++) {
+                FacesOfLines f = new FacesOfLines();
+                Oracle oracle = new Oracle();
+                for (int[] line : ends) {
+                    add(f, oracle, line);
+                }
+                due.is("ten of them lie in so many twos", f.count(10), 2);
+                due.is("ten of them have hulls", f.count(7), oracle.count(7));
+                due.is("ten of them leave faces", f.count(6), oracle.count(6));
+                while (f.count(0) > left) {
+                    int line = from == 0 ? f.count(0) - 1 : 0;
+                    f.drop(line);
+                    oracle.drop(line);
+                }
+                String name = left + " of ten are left: ";
+                for (int x = -1; x < 42; x += 3) {
+                    due.is(name + "where", f.where(2 * x + 1, 2 * x - 3, 2), oracle.where(2 * x + 1, 2 * x - 3, 2));
+                    due.is(name + "where", f.where(x, 4, 1), oracle.where(x, 4, 1));
+                }
+                everything(name, f, oracle);
+            }
+        }
+    }
+
+    private static void borderThatWas() {
+        FacesOfLines f = of(0, 0, 0, 1, 0, 2, 0, 3, 0, 3, 0, 4, 0, 4, 0, 5);
+        int[] borders = {15, 7, 3, 1, 0};
+        for (int gone = 0; gone < 5; gone++) {
+            due.is("bounds of the only face, " + gone + " are gone", f.face(0, 2), borders[gone]);
+            f.drop(3 - gone);
+        }
+    }
+
     /** Behind the greatest int the seeds go on with the least one; a net of five LINES over the whole sheet. */
     private static void seedsGoRound() {
         int[] net = {0, 20, 40, 20, 20, 0, 20, 40, 0, 3, 40, 35, 0, 38, 40, 9, 0, 10, 40, 13};
@@ -254,6 +313,9 @@ public final class TermTests {
         likeYs();
         tellsJustThat();
         seedsGoRound();
+        tenUprightsAtOneX();
+        whatWasIsForgotten();
+        borderThatWas();
         atTheEdgesOfTheSheet();
         eachTwoLines();
         eachThreeLines();
